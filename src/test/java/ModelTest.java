@@ -9,7 +9,7 @@ import java.util.Random;
 public final class ModelTest {
     private static final int OBJECTS = 16;
     private static final int CALLS = 512;
-    private static final int RUNS = 600;
+    private static final int RUNS = 150;
     private static final int[] WRONG = {-1, 16, 17, -16, 32, 48, Integer.MIN_VALUE, Integer.MAX_VALUE};
 
     private final int[] size = new int[OBJECTS];
