@@ -146,22 +146,16 @@ public final class KeepTree {
         return sum;
     }
 
-    private int referredFrom(int set) {
-        int found = 0;
-        for (int object = 0; object < OBJECTS; object++) {
-            if (bitOf(set, object) == 1) {
-                found |= references[object];
-            }
-        }
-        return found;
-    }
-
     // The objects that would be alive if those in the set taken were not there.
     private int aliveWithout(int taken) {
         int living = roots & ~taken;
         // A way from a root that visits no object twice has fewer steps than there are objects.
         for (int step = 0; step < OBJECTS; step++) {
-            living |= referredFrom(living) & ~taken;
+            for (int object = 0; object < OBJECTS; object++) {
+                if (bitOf(living, object) == 1) {
+                    living |= references[object] & ~taken;
+                }
+            }
         }
         return living;
     }
