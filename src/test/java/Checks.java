@@ -2,8 +2,14 @@
 final class Checks {
     private static int wrong = 0;
     private static int made = 0;
+    private static String sentence = "";
 
     private Checks() {
+    }
+
+    /** The sentence of the document that the next answers are about. */
+    static void sentence(String text) {
+        sentence = "'" + text + "': ";
     }
 
     static void due(String call, int got, int want) {
@@ -15,7 +21,7 @@ final class Checks {
 
     static void fail(String text) {
         wrong++;
-        System.out.println(text);
+        System.out.println(sentence + text);
     }
 
     static void end() {
